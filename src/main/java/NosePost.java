@@ -779,10 +779,6 @@ public final class NosePost {
         int getters;
         int home;
 
-        Tally() {
-            firstWrong = NONE;
-        }
-
         void clear() {
             came = 0;
             firstWrong = NONE;

@@ -368,6 +368,12 @@ public final class PromiseTest {
         x.moves(5, 5);
         due("comes(0)", 4 + 8 + 32, x.comes(0));
         due("comes(1)", 1 + 2 + 4 + 8 + 32, x.comes(1));
+        x = Checks.moorOf("d50;p006;k215;k335");
+        due("not SMELT, HOME, comes", 4, x.comes(0));
+        due("not SMELT, HOME, comes", 4, x.comes(1));
+        x.bathe(2, 2);
+        due("none", 0, x.comes(0));
+        due("none", 0, x.comes(1));
     }
 
     /** 10 */
@@ -709,6 +715,10 @@ public final class PromiseTest {
         due("a row of no cells", 1, x.sheet(0, 1, 0));
         due("put(0, 0, 1)", -13, x.put(0, 0, 1));
         due("a row that is there", 1, x.lose(0));
+        x.sheet(0, 0, 60);
+        for (int i = 0; i < 60; i++) {
+            x.put(0, i, 7);
+        }
         due("a new row", 1, x.sheet(0, 2, 60));
         for (int i = 0; i < 60; i++) {
             due("0 at first", 0, x.cell(0, i, 2));
@@ -775,7 +785,9 @@ public final class PromiseTest {
         lost(x, 0, -1, 0, 2);
         lost(x, 0, -1, 1, 3);
         lost(x, 0, 2, 1, 3);
+        lost(x, 4, 0, 1, 0);
         lost(x, 0, MAX, 1, 3);
+        lost(x, 0, 0, 3, 0);
         lost(x, 0, MIN, 1, 3);
         due("cell(0, 1, 1)", -7, x.cell(0, 1, 1));
         due("fault()", 0, x.fault());
