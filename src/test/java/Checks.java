@@ -18,6 +18,16 @@ final class Checks {
         due(what, 1, so ? 1 : 0);
     }
 
+    void same(String what, String want, String got) {
+        done++;
+        if (!got.equals(want)) {
+            wrong++;
+            if (wrong <= MOST_PRINTED) {
+                System.out.println(what + " is '" + got + "', due is '" + want + "'");
+            }
+        }
+    }
+
     boolean anyWrong() {
         return wrong != 0;
     }

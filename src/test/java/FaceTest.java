@@ -28,6 +28,7 @@ public final class FaceTest {
 
     public static void main(String[] args) throws Exception {
         face();
+        limits();
         source(Files.readString(Path.of(args[0])));
         CHECKS.end("FaceTest");
     }
@@ -66,6 +67,29 @@ public final class FaceTest {
             CHECKS.holds(c + " is static, and not public",
                     Modifier.isStatic(c.getModifiers()) && !Modifier.isPublic(c.getModifiers()));
         }
+    }
+
+    private static void limits() {
+        Class<?>[] inside = NosePost.class.getDeclaredClasses();
+        CHECKS.holds("some twelve classes at most", inside.length < 12);
+        limitsOf(NosePost.class);
+        for (Class<?> c : inside) {
+            limitsOf(c);
+        }
+    }
+
+    private static void limitsOf(Class<?> c) {
+        int fields = 0;
+        for (Field f : c.getDeclaredFields()) {
+            boolean constant = Modifier.isStatic(f.getModifiers());
+            CHECKS.holds(f + " is final, as it is static", !constant || Modifier.isFinal(f.getModifiers()));
+            fields += constant ? 0 : 1;
+        }
+        CHECKS.holds(c + " has some twenty fields at most", fields <= 20);
+        for (Method m : c.getDeclaredMethods()) {
+            CHECKS.holds(m + " takes seven at most", m.getParameterCount() <= 7);
+        }
+        CHECKS.holds(c + " has no classes inside", c == NosePost.class || c.getDeclaredClasses().length == 0);
     }
 
     private static String types(Class<?>[] types) {

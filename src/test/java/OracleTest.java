@@ -1,6 +1,7 @@
 /** Long runs of calls of many kinds, answered by the program and by Oracle alike. */
 public final class OracleTest {
-    private static final int RUNS = 700, CALLS = 512;
+    // No object is asked beyond its 512th call: what it answers then is free.
+    private static final int RUNS = 700, CALLS = 512, LONGEST_STEP = 64;
     private static final int[] WILD = {Integer.MIN_VALUE, Integer.MAX_VALUE, -1, -9, 60, 61, 1 << 30, -100, 1000};
 
     private final Checks checks;
@@ -19,7 +20,7 @@ public final class OracleTest {
         Checks checks = new Checks();
         for (int number = 0; number < RUNS && !checks.anyWrong(); number++) {
             OracleTest one = new OracleTest(checks, number);
-            while (one.called < CALLS && !checks.anyWrong()) {
+            while (one.called <= CALLS - LONGEST_STEP && !checks.anyWrong()) {
                 one.step();
             }
             if (checks.anyWrong()) {

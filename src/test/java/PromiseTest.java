@@ -379,28 +379,24 @@ public final class PromiseTest {
     /** 10 */
     private static void round() {
         part = "round";
-        NosePost x = Checks.moorOf("d51;p335;k065;r127");
-        told(x, "comes", new int[] {0, 8}, 1, -9, 1, 0, 3, 6, 2);
-        told(x, "HOME", new int[] {1, 8}, 0, 0, 0, 1, 3, 6, 2);
-        told(x, "to another", new int[] {2, 8}, 0, 0, 1, 0, 3, 6, 2);
-        told(x, "none", new int[] {}, 0, -9, 0, 0, 3, 6, 2);
-        told(x, "no letter", new int[] {0, 7, 1, 10, 2, 19}, 0, -9, 0, 0, 3, 6, 2);
-        told(x, "bathed and moved", new int[] {1, 6, 1, 8, 2, 8, 2, 13, 0, 8}, 2, 2, 3, 0, 3, 6, 2);
-        told(x, "WAS goes on", new int[] {0, 0, 0, 8, 2, 8, 1, 8}, 1, 1, 4, 1, 3, 6, 1);
-        told(x, "moved far", new int[] {0, 19, 0, 8, 0, 17, 0, 8}, 1, 1, 5, 0, 3, 6, 1);
-        due("SMELL is as ever", 0, x.ofPerson(1, 1));
-        due("WAS is as ever", 2, x.ofPerson(2, 2));
-        due("PLACE is as ever", 7, x.ofPerson(2, 3));
-        due("letters", 0, x.many(3));
+        told("comes", new int[] {0, 8}, 1, -9, 1, 0, 3, 6, 2);
+        told("HOME", new int[] {1, 8}, 0, 0, 0, 1, 3, 6, 2);
+        told("to another", new int[] {2, 8}, 0, 0, 1, 0, 3, 6, 2);
+        told("none", new int[] {}, 0, -9, 0, 0, 3, 6, 2);
+        told("no letter", new int[] {0, 7, 1, 10, 2, 19}, 0, -9, 0, 0, 3, 6, 2);
+        told("bathed and moved", new int[] {1, 6, 1, 8, 2, 8, 2, 13, 0, 8}, 2, 2, 3, 0, 3, 6, 2);
+        told("WAS goes on", new int[] {0, 0, 0, 8, 2, 8, 1, 8}, 1, 1, 4, 1, 3, 6, 1);
+        told("moved far", new int[] {0, 19, 0, 8, 0, 17, 0, 8}, 1, 1, 5, 0, 3, 6, 1);
         int[] most = new int[40];
         for (int k = 0; k < 20; k++) {
             most[2 * k + 1] = 8;
         }
-        told(x, "20 pairs", most, 20, -9, 1, 0, 3, 6, 2);
+        told("20 pairs", most, 20, -9, 1, 0, 3, 6, 2);
     }
 
-    private static void told(NosePost x, String why, int[] pairs, int... due) {
+    private static void told(String why, int[] pairs, int... due) {
         for (int lane = 0; lane < 3; lane++) {
+            NosePost x = Checks.moorOf("d51;p335;k065;r127");
             int[] row = new int[pairs.length + 3];
             System.arraycopy(pairs, 0, row, 3, pairs.length);
             Checks.write(x, lane, lane, row);
@@ -412,6 +408,10 @@ public final class PromiseTest {
             for (int what = 6 + due.length; what < 16; what++) {
                 due(why + ", what " + what, -9, x.round(lane, lane, 3, pairs.length / 2, what));
             }
+            due("SMELL is as ever", 0, x.ofPerson(1, 1));
+            due("WAS is as ever", 2, x.ofPerson(2, 2));
+            due("PLACE is as ever", 7, x.ofPerson(2, 3));
+            due("letters", 0, x.many(3));
         }
     }
 
