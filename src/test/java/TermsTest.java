@@ -335,6 +335,8 @@ public final class TermsTest {
         order("all to one", "d53;k105;k205;k405", 1, 0, 1, 2);
         order("all to the last", "d50;k145;k245;k445", 1, 0, 1, 2);
         order("the last brings the first's", "d50;k165;k225;k335;k415", 3, 1, 2, 3, 0);
+        // 3 ahead of 2, 4 ahead of 1, 5 ahead of 0, whose would else go to one another.
+        order("as late a row as any first one", "d50;k125;k215;k315;k435;k525;k615", 3, 3, 2, 4, 1, 5, 0);
         order("two PEOPLE, the second ahead", "d50;k165;k215", 1, 1, 0);
         order("two PEOPLE, as like", "d50;k115;k115", 1, 0, 1);
     }
