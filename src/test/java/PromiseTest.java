@@ -10,6 +10,7 @@ public final class PromiseTest {
     public static void main(String[] args) {
         newObject();
         moorTaken();
+        moorFromEachCell();
         moorFirstFault();
         moorRefused();
         moorMakesAnew();
@@ -85,8 +86,11 @@ public final class PromiseTest {
         due("tell(0)", -1, x.tell(0));
         due("whistle(0)", -1, x.whistle(0));
         due("as(0, 0)", -1, x.as(0, 0));
-        due("constants", -1 - 2 - 3 - 4 - 9, NosePost.UNKNOWN + NosePost.OUTSIDE + NosePost.STATE
-                + NosePost.FULL + NosePost.NONE);
+        due("UNKNOWN", -1, NosePost.UNKNOWN);
+        due("OUTSIDE", -2, NosePost.OUTSIDE);
+        due("STATE", -3, NosePost.STATE);
+        due("FULL", -4, NosePost.FULL);
+        due("NONE", -9, NosePost.NONE);
         due("LOST", LOST, NosePost.LOST);
     }
 
@@ -109,6 +113,32 @@ public final class PromiseTest {
                         due(text + " " + p + ", " + what, text.charAt(4 + 5 * p + what) - '0',
                                 x.ofPerson(p, what));
                     }
+                }
+            }
+        }
+    }
+
+    /** 2: the cells ahead of i and behind the text are no matter. */
+    private static void moorFromEachCell() {
+        part = "moor, from each cell";
+        String text = "d51;p304;r117;k438;p566;k777;r025";
+        for (int i = 0; i + text.length() <= 60; i++) {
+            NosePost x = new NosePost();
+            x.sheet(0, 0, 60);
+            x.put(0, i - 1, ';');
+            x.put(0, i + text.length(), ';');
+            for (int c = 0; c < text.length(); c++) {
+                x.put(0, i + c, text.charAt(c));
+            }
+            due("from " + i, 6, x.moor(0, 0, i, text.length()));
+            due("from " + i + ", one more", i < 27 ? -133 : -13, x.moor(0, 0, i, text.length() + 1));
+            due("from " + i + ", POST", 5, x.many(1));
+            due("from " + i + ", LAX", 1, x.many(2));
+            for (int p = 0; p < 6; p++) {
+                due("from " + i + ", kind of " + p, "prk".indexOf(text.charAt(5 * p + 4)), x.ofPerson(p, 0));
+                for (int what = 1; what < 4; what++) {
+                    due("from " + i + ", ofPerson(" + p + ", " + what + ")", text.charAt(5 * p + 4 + what) - '0',
+                            x.ofPerson(p, what));
                 }
             }
         }

@@ -1,3 +1,4 @@
+import java.util.Arrays;
 import java.util.function.Supplier;
 
 /**
@@ -28,6 +29,7 @@ public final class RefusalTest {
         withoutAMoor();
         onNoCells();
         pairs();
+        pairsFromEachCell();
         byEachWindow();
         CHECKS.end("RefusalTest");
     }
@@ -526,6 +528,30 @@ public final class RefusalTest {
         CHECKS.due("fault()", 0, x.fault());
         CHECKS.same("what round changes", "", before.changesTo(State.withReadings(x)));
         return answer;
+    }
+
+    /** "Cells of a SHEET from i on": the cells ahead of i and behind the pairs are no matter. */
+    private static void pairsFromEachCell() {
+        for (int i = 0; i <= 54; i++) {
+            CHECKS.due("from " + i + ", all as told", 3, roundFrom(i, 0, 8, 0, 8, 0, 8));
+            for (int k = 0; k < 3; k++) {
+                int[] first = {0, 8, 0, 8, 0, 8};
+                first[2 * k] = 4;
+                CHECKS.due("from " + i + ", the first of pair " + k, UNKNOWN, roundFrom(i, first));
+                int[] second = {0, 8, 0, 8, 0, 8};
+                second[2 * k + 1] = 9;
+                CHECKS.due("from " + i + ", the second of pair " + k, OUTSIDE, roundFrom(i, second));
+            }
+        }
+    }
+
+    private static long roundFrom(int i, int... told) {
+        NosePost x = SetUps.moor();
+        int[] row = new int[60];
+        Arrays.fill(row, 99);
+        System.arraycopy(told, 0, row, i, told.length);
+        Checks.write(x, 3, 1, row);
+        return x.round(3, 1, i, told.length / 2, 0);
     }
 
     /** INDEX by every i and n about the row. */
